@@ -36,7 +36,7 @@ public final class FoldersTest {
             CHECK.due("votes of no side", x.votes(side, 100, 200), MovedFolders.UNKNOWN);
             CHECK.due("votes of no side, wrong folders", x.votes(side, 1, 1), MovedFolders.UNKNOWN);
         }
-        int[] wrong = {-1, 1, 5, 10, 11, 44, 99, 101, 105, 150, 201, 404, 440 + 5, 450, 500, 1000, -100,
+        int[] wrong = {-1, 1, 5, 10, 11, 44, 99, 101, 105, 115, 150, 151, 201, 335, 404, 440 + 5, 450, 500, 1000, -100,
             Integer.MAX_VALUE, Integer.MIN_VALUE};
         for (int folder : wrong) {
             CHECK.due("votes(1, " + folder + ", 100)", x.votes(1, folder, 100), MovedFolders.OUTSIDE);

@@ -103,6 +103,11 @@ public final class KeepTest {
         for (int[] w : want) {
             CHECK.due("told(" + w[0] + ")", x.told(w[0]), w[1]);
         }
+        x.wipe();
+        Check.lay(x, 2, "Bh=5");
+        CHECK.due("told(31)", x.told(31), 2);
+        CHECK.due("told(32)", x.told(32), 1);
+        x.drop(2, 1);
         x.exchange();
         CHECK.due("told(21)", x.told(21), 0);
         CHECK.due("told(22)", x.told(22), 2);

@@ -12,6 +12,8 @@ public final class PairsTest {
         theMostAlikeComeFirst();
         theLimitCounts();
         noneIsNeverPairedByContent();
+        allTwelveArePaired();
+        pairsAreThoseOfNow();
         pairRefuses();
         originRefuses();
         CHECK.end();
@@ -125,6 +127,42 @@ public final class PairsTest {
         pairs("none and none", "a=", "Aa=", 1, "-6/-6 | -6");
         pairs("none and some", "a=", "Aa=1", 1, "-6/-6 | -6");
         pairs("some and none", "a=1", "Aa=", 1, "-6/-6 | -6");
+    }
+
+    private static void allTwelveArePaired() {
+        pairs("twelve SAME", "a=0 b=1 c=2 d=3 e=4 f=5 g=6 h=7 Aa=8 Ab=9 Ac=10 Ad=11",
+            "Ba=0 Bb=1 Bc=2 Bd=3 Be=4 Bf=5 Bg=6 Bh=7 Ca=8 Cb=9 Cc=10 Cd=11", 50,
+            "0/1 1/1 2/1 3/1 4/1 5/1 6/1 7/1 8/1 9/1 10/1 11/1 | 0 1 2 3 4 5 6 7 8 9 10 11");
+        pairs("twelve LIKE", "a=1 b=1 c=1 d=1 e=1 f=1 g=1 h=1 Aa=1 Ab=1 Ac=1 Ad=1",
+            "Ba=12 Bb=12 Bc=12 Bd=12 Be=12 Bf=12 Bg=12 Bh=12 Ca=12 Cb=12 Cc=12 Cd=12", 50,
+            "0/2 1/2 2/2 3/2 4/2 5/2 6/2 7/2 8/2 9/2 10/2 11/2 | 0 1 2 3 4 5 6 7 8 9 10 11");
+    }
+
+    /** Asked before and behind each call that changes trees. */
+    private static void pairsAreThoseOfNow() {
+        MovedFolders x = Check.trees("a=1", "", "");
+        CHECK.due("gone", x.pair(1, 0, 0), MovedFolders.NONE);
+        Check.lay(x, 1, "Ba=1");
+        CHECK.due("behind put", x.pair(1, 0, 1), 1);
+        x.image(0);
+        x.drop(1, 0);
+        CHECK.due("behind drop", x.pair(1, 0, 1), MovedFolders.NONE);
+        x.restore(0);
+        CHECK.due("behind restore", x.pair(1, 0, 1), 1);
+        x.copy(1);
+        CHECK.due("behind copy", x.pair(1, 0, 1), 0);
+        x.exchange();
+        CHECK.due("behind exchange", x.pair(1, 0, 1), MovedFolders.NONE);
+        Check.lay(x, 1, "a=1");
+        Check.lay(x, 1, "b=2");
+        CHECK.due("new", x.origin(1, 1), MovedFolders.NONE);
+        CHECK.due("settle()", x.settle(), 2);
+        CHECK.due("behind settle", x.origin(1, 1), 1);
+        Check.lay(x, 1, "Cb=12");
+        x.drop(1, 1);
+        CHECK.due("half", x.pair(1, 1, 1), 2);
+        x.limit(51);
+        CHECK.due("behind limit", x.pair(1, 1, 1), MovedFolders.NONE);
     }
 
     private static void pairRefuses() {

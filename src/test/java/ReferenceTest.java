@@ -135,7 +135,7 @@ public final class ReferenceTest {
     }
 
     private void anyStep() {
-        switch (random.nextInt(12)) {
+        switch (random.nextInt(15)) {
             case 0: case 1:
                 due("settle", x.settle(), m.settle());
                 break;
@@ -162,6 +162,9 @@ public final class ReferenceTest {
                 int tree = random.nextInt(5) - 1;
                 int i = random.nextInt(14) - 1;
                 due("drop", x.drop(tree, i), m.drop(tree, i));
+                break;
+            case 11: case 12: case 13:
+                change(random.nextInt(3));
                 break;
             default:
                 int other = odd();
