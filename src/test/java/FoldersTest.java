@@ -120,6 +120,12 @@ public final class FoldersTest {
         MovedFolders x = Check.trees("Aa=1 Bb=2 Cc=3", "Ba=1 Bb=2 Cc=3", "Aa=1 Cb=2 Cc=3");
         loop(x, 1, 100, 200, 0);
         loop(x, 2, 200, 300, 0);
+        // D to C to B to A to DD: what one search has reached must not be seen by the next one
+        x = Check.trees("Aa=1 Bb=2 Cc=3 Dd=4", "Aa=1 Ab=2 Cc=3 Cd=4", "DDa=1 Bb=2 Bc=3 Dd=4");
+        loop(x, 1, 200, 100, 0);
+        loop(x, 1, 400, 300, 0);
+        loop(x, 2, 100, 440, 0);
+        loop(x, 2, 300, 200, 0);
         x = Check.trees("Aa=1 Bb=2", "Ca=1 Cb=2", "Ca=1 Cb=2");
         loop(x, 1, 100, 300, 0);
         loop(x, 2, 100, 300, 0);
