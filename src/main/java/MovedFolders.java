@@ -12,7 +12,7 @@ public final class MovedFolders {
     private static final int FIRST_LIMIT = 50, WHOLE = 100;
     private static final int STAYED = 0, SAME = 1, LIKE = 2;
     private static final int BY_PLACE = 1, BY_LOSS = 2, BY_CONTENT = 4, BY_MEETING = 8;
-    private static final int IMAGES = 2;
+    private static final int IMAGES = 2, LEAST_FOUND = 20;
 
     private final Pad pad = new Pad();
     private final Held held = new Held();
@@ -225,7 +225,9 @@ public final class MovedFolders {
     }
 
     public int told(int what) {
-        refresh();
+        if (what >= LEAST_FOUND) {
+            refresh();
+        }
         switch (what) {
             case 0: return pad.size();
             case 1: return held.least;
@@ -682,8 +684,9 @@ public final class MovedFolders {
             }
             joinStayed(base, side);
             rankOthers(base, side, least);
-            for (int k = 0; k < MOST_FILES; k++) {
-                joinBest(base, side);
+            boolean more = true;
+            for (int k = 0; k < MOST_FILES && more; k++) {
+                more = joinBest(base, side);
             }
         }
 
@@ -705,7 +708,8 @@ public final class MovedFolders {
         private void rankOthers(Tree base, Tree side, int least) {
             for (int i = 0; i < base.size(); i++) {
                 for (int j = 0; j < side.size(); j++) {
-                    int rank = rankOf(base.contentAt(i), side.contentAt(j), least);
+                    boolean free = mates[i] == NONE && sources[j] == NONE;
+                    int rank = free ? rankOf(base.contentAt(i), side.contentAt(j), least) : 0;
                     int sameName = base.nameAt(i) == side.nameAt(j) ? 1 : 0;
                     ranks[i * MOST_FILES + j] = rank == 0 ? 0 : 2 * rank + sameName;
                 }
@@ -725,7 +729,7 @@ public final class MovedFolders {
         }
 
         /** Only a higher rank takes the place of the first one found, so the least FILES come first. */
-        private void joinBest(Tree base, Tree side) {
+        private boolean joinBest(Tree base, Tree side) {
             int best = 0;
             int bestBase = NONE;
             int bestSide = NONE;
@@ -739,10 +743,12 @@ public final class MovedFolders {
                     }
                 }
             }
-            if (best > 0) {
-                boolean same = base.contentAt(bestBase) == side.contentAt(bestSide);
-                join(bestBase, bestSide, same ? SAME : LIKE);
+            if (best == 0) {
+                return false;
             }
+            boolean same = base.contentAt(bestBase) == side.contentAt(bestSide);
+            join(bestBase, bestSide, same ? SAME : LIKE);
+            return true;
         }
     }
 
